@@ -25,6 +25,7 @@ public final class PromisesTest {
         test.promise12Lit();
         test.promise13FirstIn();
         test.promise14LastIn();
+        test.promises13And14AtTheSides();
         test.promise15Nearer();
         test.questionsChangeNothing();
         test.check.finish();
@@ -470,6 +471,24 @@ public final class PromisesTest {
         }
         for (int off : new int[] {LEAST, -1, 16, GREATEST}) {
             due("14: lastIn(0, " + off + ")", r.lastIn(0, off), -2);
+        }
+    }
+
+    /** Slim triangles about px = -17 (outside), -15 (column 0), 15 (column 15) and 17 (outside). */
+    private void promises13And14AtTheSides() {
+        int[] middles = {-17, -15, 15, 17};
+        int[] columns = {-3, 0, 15, -3};
+        ClipRaster r = new ClipRaster();
+        for (int n = 0; n < middles.length; n++) {
+            corner(r, 0, middles[n] - 1, -2, 0, 16);
+            corner(r, 1, middles[n] + 1, -2, 0, 16);
+            corner(r, 2, middles[n], 2, 0, 16);
+            r.draw(0);
+            for (int j = 0; j < 16; j++) {
+                int want = j == 7 || j == 8 ? columns[n] : -3;
+                due("13: slim firstIn(" + n + ", " + j + ")", r.firstIn(n, j), want);
+                due("14: slim lastIn(" + n + ", " + j + ")", r.lastIn(n, j), want);
+            }
         }
     }
 

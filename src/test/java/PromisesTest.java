@@ -1,66 +1,15 @@
 /** Each promise with ordinary inputs, the edges the document names, and wrong inputs. */
-public final class PromisesTest {
-    private static final int LEAST = Integer.MIN_VALUE;
-    private static final int GREATEST = Integer.MAX_VALUE;
-
-    private final Check check = new Check();
-
+public final class PromisesTest extends Scenes {
     public static void main(String[] args) {
         PromisesTest test = new PromisesTest();
-        test.promise1NewObject();
-        test.promise2Place();
-        test.promise3Depth();
-        test.promise4Volume();
-        test.promise5Draw();
-        test.promise5DrawSide();
-        test.promise6Remove();
-        test.promise7Drawn();
-        test.promise8Owner();
-        test.promise8ExactDepth();
-        test.promise9Owned();
-        test.promise10Covered();
-        test.promise10NearAndFar();
-        test.promise10BehindTheEye();
-        test.promise11Covers();
-        test.promise12Lit();
-        test.promise13FirstIn();
-        test.promise14LastIn();
-        test.promises13And14AtTheSides();
-        test.promise15Nearer();
-        test.questionsChangeNothing();
-        test.check.finish();
-    }
-
-    private void due(String call, int got, int want) {
-        check.due(call, got, want);
-    }
-
-    /** Sets corner k of the draft. */
-    private static void corner(ClipRaster r, int k, int x, int y, int z, int w) {
-        r.place(k, x, y);
-        r.depth(k, z, w);
-    }
-
-    /** Sees the whole window while w is in 1 .. 4; its depth is z / w everywhere. */
-    private static void wholeWindow(ClipRaster r, int z, int w) {
-        corner(r, 0, -20, -20, z, w);
-        corner(r, 1, 20, -20, z, w);
-        corner(r, 2, 0, 20, z, w);
-    }
-
-    /** Its corners are the centres of pixels (8, 8), (15, 8) and (8, 15); it covers 36 pixels. */
-    private static void cornerPatch(ClipRaster r, int z) {
-        corner(r, 0, 1, 1, z, 16);
-        corner(r, 1, 15, 1, z, 16);
-        corner(r, 2, 1, 15, z, 16);
-    }
-
-    private static ClipRaster full() {
-        ClipRaster r = new ClipRaster();
-        for (int n = 0; n < 10; n++) {
-            r.draw(0);
-        }
-        return r;
+        test.runAll(
+            test::promise1NewObject, test::promise2Place, test::promise3Depth, test::promise4Volume,
+            test::promise5Draw, test::promise5DrawSide, test::promise6Remove, test::promise7Drawn,
+            test::promise8Owner, test::promise8ExactDepth, test::promise9Owned,
+            test::promise10Covered, test::promise10NearAndFar, test::promise10BehindTheEye,
+            test::promise11Covers, test::promise12Lit, test::promise13FirstIn,
+            test::promise14LastIn, test::promises13And14AtTheSides, test::promise15Nearer,
+            test::questionsChangeNothing);
     }
 
     private void promise1NewObject() {
@@ -383,6 +332,10 @@ public final class PromisesTest {
     }
 
     private void promise11Covers() {
+        // No object is asked more than 512 times, since the rest of its answers would be free.
+        ClipRaster whole = new ClipRaster();
+        wholeWindow(whole, 0, 1);
+        whole.draw(0);
         ClipRaster r = new ClipRaster();
         cornerPatch(r, 16);
         r.draw(0);
@@ -393,7 +346,7 @@ public final class PromisesTest {
             int j = at / 16;
             int inside = i >= 8 && j >= 8 && i + j <= 23 ? 1 : 0;
             due("11: covers(0, " + i + ", " + j + ")", r.covers(0, i, j), inside);
-            due("11: covers(1, " + i + ", " + j + ")", r.covers(1, i, j), 1);
+            due("11: whole: covers(0, " + i + ", " + j + ")", whole.covers(0, i, j), 1);
         }
         for (int number : new int[] {LEAST, -1, 2, 10, GREATEST}) {
             due("11: covers(" + number + ", 8, 8)", r.covers(number, 8, 8), -1);
@@ -426,20 +379,6 @@ public final class PromisesTest {
         wholeWindow(r, 1, 1);
         r.draw(0);
         due("12: lit() of the whole window", r.lit(), 256);
-    }
-
-    /** Draws one that covers column 8 to column 15 - j of row j, and nothing from row 8 on. */
-    private static ClipRaster steps() {
-        ClipRaster r = new ClipRaster();
-        corner(r, 0, -20, -20, -20, 16);
-        corner(r, 1, 20, -20, 20, 16);
-        corner(r, 2, -20, 20, -20, 16);
-        r.draw(0);
-        wholeWindow(r, 0, 1);
-        r.draw(0);
-        r.place(2, 0, -20);
-        r.draw(0);
-        return r;
     }
 
     private void promise13FirstIn() {

@@ -21,8 +21,8 @@ public final class RefusalsTest extends Scenes {
             test::firstInOffWindow, test::firstInEmptyRow, test::firstInOrder,
             test::lastInGreatestColumn, test::lastInMissing, test::lastInOffWindow,
             test::lastInEmptyRow, test::lastInOrder, test::nearerOneTwoOrZero, test::nearerMissing,
-            test::nearerOffWindow, test::nearerNotCovered, test::nearerOnePixelNumber,
-            test::nearerOrder);
+            test::nearerOffWindow, test::nearerOffPixels, test::nearerNotCovered,
+            test::nearerOnePixelNumber, test::nearerOrder);
     }
 
     /** Had ten drawn, of which the last seven are removed again; each sees the whole window. */
@@ -598,6 +598,16 @@ public final class RefusalsTest extends Scenes {
 
     // Promises 13 and 14
 
+    /** The one would be in column -1 of row 8, the other in column 16. */
+    private static ClipRaster besideTheWindow() {
+        ClipRaster r = new ClipRaster();
+        onePixel(r, -1, 8, 0);
+        r.draw(0);
+        onePixel(r, 16, 8, 0);
+        r.draw(0);
+        return r;
+    }
+
     private void firstInLeastColumn() {
         sentence("Promise 13", "The least column of a pixel of row j that the triangle covers.");
         ClipRaster r = threeLeft();
@@ -649,6 +659,9 @@ public final class RefusalsTest extends Scenes {
             }
         }
         due("firstIn(0, 0) with volume 0", full().firstIn(0, 0), -3);
+        ClipRaster beside = besideTheWindow();
+        due("firstIn(0, 8), seen left of the window", beside.firstIn(0, 8), -3);
+        due("firstIn(1, 8), seen right of the window", beside.firstIn(1, 8), -3);
     }
 
     private void firstInOrder() {
@@ -715,6 +728,9 @@ public final class RefusalsTest extends Scenes {
             }
         }
         due("lastIn(0, 0) with volume 0", full().lastIn(0, 0), -3);
+        ClipRaster beside = besideTheWindow();
+        due("lastIn(0, 8), seen left of the window", beside.lastIn(0, 8), -3);
+        due("lastIn(1, 8), seen right of the window", beside.lastIn(1, 8), -3);
     }
 
     private void lastInOrder() {
@@ -779,6 +795,21 @@ public final class RefusalsTest extends Scenes {
     }
 
     private void nearerOffWindow() {
+        sentence("Promise 15", "-2 if i or j is not in 0 .. 15");
+        ClipRaster r = layers();
+        for (int i = 0; i < 16; i++) {
+            due("nearer(0, 1, at) in row -1", r.nearer(0, 1, 16 * -1 + i), -2);
+            due("nearer(0, 1, at) in row 0", r.nearer(0, 1, i), 2);
+            due("nearer(0, 1, at) in row 15", r.nearer(0, 1, 16 * 15 + i), 2);
+            due("nearer(0, 1, at) in row 16", r.nearer(0, 1, 16 * 16 + i), -2);
+        }
+        // Each number 0 .. 255 is a pixel: what would be column 16 is column 0 of the next row.
+        for (int j = 0; j < 15; j++) {
+            due("nearer(0, 1, 16 * " + j + " + 16)", r.nearer(0, 1, 16 * j + 16), 2);
+        }
+    }
+
+    private void nearerOffPixels() {
         sentence("Promise 15", "0 .. 255; an at outside is the case of -2.");
         ClipRaster r = layers();
         for (int at : offPixels()) {

@@ -442,6 +442,26 @@ public final class TermsTest extends Scenes {
             due("nearer(1, 3, " + at + "), 0 and 0", r.nearer(1, 3, at), 0);
             due("owner at " + at, r.owner(at % 16, at / 16), 1);
         }
+        for (int[] order : ORDERS) {
+            depthsOfLeastVolume(order);
+        }
+    }
+
+    /** With the least volumes that aren't 0, which are 1 and -1, against a depth of 1/2. */
+    private void depthsOfLeastVolume(int[] order) {
+        int[][] quarter = {{0, 0, 1}, {1, 0, 0}, {0, 1, 0}};
+        ClipRaster r = new ClipRaster();
+        wholeWindow(r, 1, 2);
+        r.draw(0);
+        drawInOrder(r, order, quarter, 1, 0, 0);
+        String volume = " with volume " + r.volume();
+        due("nearer(0, 1, 255), 1/2 and 1" + volume, r.nearer(0, 1, 255), 1);
+        due("nearer(1, 0, 255), 1 and 1/2" + volume, r.nearer(1, 0, 255), 2);
+        due("owner(15, 15), still the first" + volume, r.owner(15, 15), 0);
+        drawInOrder(r, order, quarter, 0, 0, 0);
+        due("nearer(0, 2, 255), 1/2 and 0" + volume, r.nearer(0, 2, 255), 2);
+        due("nearer(2, 0, 255), 0 and 1/2" + volume, r.nearer(2, 0, 255), 1);
+        due("owner(15, 15), the last" + volume, r.owner(15, 15), 2);
     }
 
     /** Corners taken several times are the same rays, so cover and depth stay. */

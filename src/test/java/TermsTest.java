@@ -22,10 +22,11 @@ public final class TermsTest extends Scenes {
             test::draftIsZeroAtFirst, test::drawnIsCopyAtTheEnd, test::numberedFromZero,
             test::holdsAtMostTen, test::volumeFormula, test::columnsAndRowsFrom0To15,
             test::centreOfEveryPixel, test::volumeNotZero, test::sharesNotBelowZero,
-            test::closestToAnEdge, test::everyWBelowZero, test::someWBelowZero, test::zNotBelowZero,
-            test::zNotAboveW, test::depthsZeroAndOne, test::depthForEveryFactor, test::depthIsExact,
-            test::depthsPastAnInt, test::ownerHasLeastDepth, test::ownerHasLeastNumber,
-            test::pixelWithoutOwner);
+            test::closestToAnEdge, test::everyWBelowZero, test::someWBelowZero,
+            test::edgesOnTheCentres, test::zNotBelowZero, test::zNotAboveW,
+            test::zOfCornersWithoutW, test::depthsZeroAndOne, test::depthForEveryFactor,
+            test::depthIsExact, test::depthsPastAnInt, test::ownerHasLeastDepth,
+            test::ownerHasLeastNumber, test::pixelWithoutOwner);
     }
 
     /** Draws the triangle with these corners x, y, w in this order; z[n] belongs to corners[n]. */
@@ -390,6 +391,32 @@ public final class TermsTest extends Scenes {
         }
     }
 
+    /** Every x and every y in -16 .. 16 is once the place of an edge; the odd ones meet centres. */
+    private void edgesOnTheCentres() {
+        sentence("Terms", "16*X = px*W; 16*Y = py*W");
+        for (int x = -16; x <= 16; x++) {
+            int y = (x + 16) * 7 % 33 - 16;
+            seenBehind(x, y, 1, 1);
+            seenBehind(x, y, 1, -1);
+            seenBehind(x, y, -1, 1);
+            seenBehind(x, y, -1, -1);
+        }
+    }
+
+    /** From W = 16 * a, X = a * x + b * toX, Y = a * y + c * toY: px = x + b / a * toX, py alike. */
+    private void seenBehind(int x, int y, int toX, int toY) {
+        int[][] quarter = {{x, y, 16}, {toX, 0, 0}, {0, toY, 0}};
+        ClipRaster r = new ClipRaster();
+        drawInOrder(r, ORDERS[(x + 16) % 6], quarter, 5, 0, 0);
+        String from = " from (" + x + ", " + y + ") along " + toX + " and " + toY;
+        for (int at = 0; at < 256; at++) {
+            int i = at % 16;
+            int j = at / 16;
+            boolean behind = (2 * i - 15 - x) * toX >= 0 && (2 * j - 15 - y) * toY >= 0;
+            due("covers(0, " + i + ", " + j + ")" + from, r.covers(0, i, j), behind ? 1 : 0);
+        }
+    }
+
     private void zNotBelowZero() {
         sentence("Terms", "0 <= Z");
         for (int[] order : ORDERS) {
@@ -419,6 +446,27 @@ public final class TermsTest extends Scenes {
             due("draw(0)", r.draw(0), 0);
             due("covered(0) with z = " + z + " and w = 4", r.covered(0), z > 4 ? 0 : 256);
             r.remove(0);
+        }
+    }
+
+    /**
+     * The first corner is the centre of pixel (0, 0); b = 2 * i * a, c = 2 * j * a, and where
+     * a = 1 then W = 16 and Z = z + 2 * i - 2 * j. The other triangle has the depth 1/2.
+     */
+    private void zOfCornersWithoutW() {
+        sentence("Terms", "0 <= Z; Z <= W");
+        int[][] quarter = {{-15, -15, 16}, {1, 0, 0}, {0, 1, 0}};
+        for (int z : new int[] {-20, -15, -1, 0, 1, 7, 8, 9, 15, 16, 17, 20}) {
+            ClipRaster r = new ClipRaster();
+            drawOne(r, quarter, z, 1, -1);
+            wholeWindow(r, 1, 2);
+            r.draw(0);
+            for (int at = 0; at < 256; at++) {
+                int there = z + 2 * (at % 16) - 2 * (at / 16);
+                int nearer = there < 8 ? 1 : there > 8 ? 2 : 0;
+                int want = there < 0 || there > 16 ? -3 : nearer;
+                due("nearer(0, 1, " + at + ") with Z = " + there, r.nearer(0, 1, at), want);
+            }
         }
     }
 
